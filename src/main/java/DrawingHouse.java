@@ -55,6 +55,8 @@ public final class DrawingHouse {
     private static final int ORDERS = 720;
     /** All orders of 1 to 6 items: 1 + 2 + 6 + 24 + 120 + 720. */
     private static final int ALL_ORDERS = 873;
+    private static final int[] ORDER_COUNTS = {1, 1, 2, 6, 24, 120, 720};
+    private static final int[] ORDER_STARTS = {0, 0, 1, 3, 9, 33, 153};
 
     private static final int SMALL_RING = 8;
     private static final int TREE_GAP = 4;
@@ -487,7 +489,7 @@ public final class DrawingHouse {
     /** A changed graph has no drawing and no shades, and nothing that was known of it holds. */
     private void forget(int g) {
         facts[g].known = false;
-        nets[g].planar = NONE;
+        nets[g].forget();
         drawings[g].wipe();
     }
 
@@ -499,10 +501,15 @@ public final class DrawingHouse {
     }
 
     private Net embedded(int g) {
-        if (nets[g].planar == NONE) {
-            embedder.learn(graphs[g], nets[g]);
+        Net net = nets[g];
+        if (net.planar == NONE) {
+            net.load(graphs[g]);
+            net.planar = embedder.embed(net) ? 1 : 0;
+            if (net.planar == 0) {
+                embedder.bar(graphs[g], net);
+            }
         }
-        return nets[g];
+        return net;
     }
 
     /** Goes through the tries without recursion: trial holds what each node is tried as. */
@@ -562,17 +569,21 @@ public final class DrawingHouse {
         }
     }
 
+    /** A coordinate is the greatest number that is written: it has at most seven digits. */
     private void writeNumber(int value) {
         if (value < 0) {
             writeByte('-');
         }
         int rest = Math.abs(value);
-        int unit = 1;
-        for (int k = 0; k < 8 && rest / unit >= 10; k++) {
-            unit *= 10;
-        }
-        for (; unit > 0; unit /= 10) {
-            writeByte('0' + rest / unit % 10);
+        boolean begun = false;
+        int unit = 1000000;
+        for (int k = 0; k < 7; k++) {
+            int digit = rest / unit % 10;
+            begun = begun || digit > 0 || k == 6;
+            if (begun) {
+                writeByte('0' + digit);
+            }
+            unit = Math.max(unit / 10, 1);
         }
     }
 
@@ -1179,7 +1190,9 @@ public final class DrawingHouse {
 
         private void learnBlocksAt(Graph graph) {
             // Edges that are not there must not look like another edge of a block.
-            Arrays.fill(block, graph.edges, MAX_EDGES, NONE);
+            for (int e = graph.edges; e < MAX_EDGES; e++) {
+                block[e] = NONE;
+            }
             for (int v = 0; v < graph.nodes; v++) {
                 long met = 0;
                 for (int e = 0; e < graph.edges; e++) {
@@ -1212,7 +1225,7 @@ public final class DrawingHouse {
                 }
             }
             int count = 0;
-            Arrays.fill(number, 0, nodes, NONE);
+            Arrays.fill(number, NONE);
             for (int i = 0; i < nodes; i++) {
                 if (number[i] == NONE) {
                     number[i] = count;
@@ -1344,11 +1357,13 @@ public final class DrawingHouse {
         }
 
         /** The weights of edges from a node to a set of others (out), or to it from them. */
-        private int weights(Graph graph, int v, int set, boolean out) {
+        private static int weights(Graph graph, int v, int set, boolean out) {
             int sum = 0;
-            for (int w = 0; w < graph.nodes; w++) {
-                if ((set >> w & 1) != 0) {
-                    sum += out ? weightOf(graph, v, w) : weightOf(graph, w, v);
+            for (int e = 0; e < graph.edges; e++) {
+                int own = out ? graph.tail[e] : graph.head[e];
+                int other = out ? graph.head[e] : graph.tail[e];
+                if (own == v && (set >> other & 1) != 0) {
+                    sum += graph.weight[e];
                 }
             }
             return sum;
@@ -1408,6 +1423,13 @@ public final class DrawingHouse {
         final int[] rowNode = new int[2 * NET_EDGES];
         /** The face round which one goes along an edge from that end. */
         final int[] faceOf = new int[2 * NET_EDGES];
+
+        void forget() {
+            planar = NONE;
+            outer = NONE;
+            kind = NONE;
+            barredEdges = 0;
+        }
 
         void begin(int count) {
             nodes = count;
@@ -1545,17 +1567,6 @@ public final class DrawingHouse {
         private int pieceCycle = 0;
         private final int[] around = new int[NET_EDGES];
 
-        void learn(Graph graph, Net place) {
-            place.load(graph);
-            place.outer = NONE;
-            place.barredEdges = 0;
-            place.kind = NONE;
-            place.planar = embed(place) ? 1 : 0;
-            if (place.planar == 0) {
-                bar(graph, place);
-            }
-        }
-
         int outer(Graph graph, Net place) {
             if (place.outer == NONE) {
                 probe.load(graph);
@@ -1568,8 +1579,11 @@ public final class DrawingHouse {
             return place.outer;
         }
 
-        private void bar(Graph graph, Net place) {
-            Arrays.fill(kept, true);
+        /** Finds what bars a graph that is not planar. */
+        void bar(Graph graph, Net place) {
+            for (int e = 0; e < graph.edges; e++) {
+                kept[e] = true;
+            }
             for (int e = graph.edges - 1; e >= 0; e--) {
                 kept[e] = false;
                 loadKept(graph);
@@ -1601,14 +1615,21 @@ public final class DrawingHouse {
             }
         }
 
-        private boolean embed(Net wanted) {
+        /** Whether a net is planar; then it has its orders around nodes and its faces. */
+        boolean embed(Net wanted) {
             net = wanted;
-            Arrays.fill(drawn, false);
             int blocks = Facts.blocksOf(net.nodes, net.edges, net.tail, net.head, net.near, block);
             for (int b = 0; b < blocks; b++) {
-                if (!embedBlock(b)) {
-                    return false;
+                int left = beginBlock(b);
+                for (int k = 0; k < NET_EDGES && left > 0; k++) {
+                    if (!pickPiece(b)) {
+                        return false;
+                    }
+                    findWay();
+                    splitCycle();
+                    left -= wayLength - 1;
                 }
+                turnByCycles();
             }
             for (int v = 0; v < net.nodes; v++) {
                 joinBlocksAt(v, blocks);
@@ -1617,58 +1638,50 @@ public final class DrawingHouse {
             return true;
         }
 
-        private boolean embedBlock(int b) {
+        /** Lays a block's ring, or its only edge; answers how many edges are left. */
+        private int beginBlock(int b) {
             int least = NONE;
-            int left = 0;
+            int count = 0;
             blockNodes = 0;
             for (int e = net.edges - 1; e >= 0; e--) {
                 if (block[e] == b) {
+                    drawn[e] = false;
                     least = e;
-                    left++;
+                    count++;
                     blockNodes |= 1 << net.tail[e] | 1 << net.head[e];
                 }
             }
-            if (left == 1) {
+            cycles = 0;
+            if (count == 1) {
                 after[2 * least] = least;
                 after[2 * least + 1] = least;
-                return true;
+                return 0;
             }
-            left -= layRing(least);
-            for (int k = 0; k < NET_EDGES && left > 0; k++) {
-                if (!pickPiece(b)) {
-                    return false;
-                }
-                findWay();
-                splitCycle();
-                left -= wayLength - 1;
-            }
-            turnByCycles();
-            return true;
+            int t = net.tail[least];
+            int h = net.head[least];
+            int free = blockNodes & ~(1 << t) & ~(1 << h);
+            wayLength = Facts.shortestWay(net.near, net.nodes, h, 1 << t, free, level, way);
+            layRing(t);
+            drawWay();
+            drawn[least] = true;
+            return count - wayLength;
         }
 
-        /** How many edges the ring has, which are as many as its nodes. */
-        private int layRing(int e) {
-            int t = net.tail[e];
-            int h = net.head[e];
-            int free = blockNodes & ~(1 << t) & ~(1 << h);
-            int length = Facts.shortestWay(net.near, net.nodes, h, 1 << t, free, level, way);
+        /** The two faces of the ring that goes from a node over the way back to it. */
+        private void layRing(int t) {
             cycle[0] = t;
             cycle[NET_NODES] = t;
             drawnNodes = 1 << t;
-            for (int k = 1; k < length; k++) {
+            for (int k = 1; k < wayLength; k++) {
                 cycle[k] = way[k - 1];
-                cycle[NET_NODES + length - k] = way[k - 1];
+                cycle[NET_NODES + wayLength - k] = way[k - 1];
                 drawnNodes |= 1 << way[k - 1];
             }
-            wayLength = length;
-            drawWay();
-            drawn[e] = true;
             cycles = 2;
-            cycleLength[0] = length;
-            cycleLength[1] = length;
+            cycleLength[0] = wayLength;
+            cycleLength[1] = wayLength;
             cycleNodes[0] = drawnNodes;
             cycleNodes[1] = drawnNodes;
-            return length;
         }
 
         private void drawWay() {
@@ -2405,15 +2418,18 @@ public final class DrawingHouse {
         private final int[] layerStart = new int[MAX_NODES + 2];
         /** The items layer by layer, as listed and as they are put in order. */
         private final int[] listed = new int[MAX_ITEMS];
+        private final int[] slot = new int[MAX_ITEMS];
         private final int[] row = new int[MAX_ITEMS];
         private final int[] bestRow = new int[MAX_ITEMS];
         private final int[] place = new int[MAX_ITEMS];
+        /** For each item the sum of the places of what it is joined to, and of how many. */
         private final int[] sum = new int[MAX_ITEMS];
         private final int[] joined = new int[MAX_ITEMS];
         /** All orders of 1 to 6 things, three bits a place, by size and then as rows. */
         private final int[] orders = new int[ALL_ORDERS];
         /** The least crossings from a layer downwards, by that layer's order. */
         private final int[] least = new int[MAX_NODES * ORDERS];
+        private final int[] low = new int[(SMALL_LAYER + 1) * ORDERS];
         private final int[] pair = new int[SMALL_LAYER * SMALL_LAYER];
 
         Layers() {
@@ -2549,6 +2565,7 @@ public final class DrawingHouse {
                         listed[count] = i;
                         row[count] = i;
                         place[i] = count - layerStart[l];
+                        slot[i] = place[i];
                         count++;
                     }
                 }
@@ -2562,32 +2579,29 @@ public final class DrawingHouse {
             return layerStart[l + 1] - layerStart[l];
         }
 
+        /** How many orders so many items have, and where those of so many items begin in the list. */
         private static int countOrders(int size) {
-            int count = 1;
-            for (int k = 2; k <= size; k++) {
-                count *= k;
-            }
-            return count;
+            return ORDER_COUNTS[size];
         }
 
         private static int firstOrder(int size) {
-            int first = 0;
-            for (int k = 1; k < size; k++) {
-                first += countOrders(k);
-            }
-            return first;
+            return ORDER_STARTS[size];
         }
 
         private void bestOrders() {
             int last = layerCount - 1;
-            Arrays.fill(least, last * ORDERS, last * ORDERS + countOrders(sizeOf(last)), 0);
+            for (int k = countOrders(sizeOf(last)) - 1; k >= 0; k--) {
+                least[last * ORDERS + k] = 0;
+            }
             for (int l = last - 1; l >= 0; l--) {
                 int count = countOrders(sizeOf(l));
-                int below = leastOf(l + 1);
+                int size = sizeOf(l + 1);
+                fillLow(l + 1);
                 for (int k = 0; k < count; k++) {
                     setOrder(l, k);
                     fillPairs(l);
-                    least[l * ORDERS + k] = leastBelow(l + 1, below);
+                    int cost = settlePairs(size);
+                    least[l * ORDERS + k] = seek(0, (1 << size) - 1, cost, MILLION);
                 }
             }
             int wanted = leastOf(0);
@@ -2627,10 +2641,11 @@ public final class DrawingHouse {
         private void fillPairs(int l) {
             Arrays.fill(pair, 0);
             for (int i = pieceStart[l]; i < pieceStart[l + 1]; i++) {
+                int a = slot[pieceLower[i]];
+                int above = place[pieceUpper[i]];
                 for (int j = i + 1; j < pieceStart[l + 1]; j++) {
-                    int a = listedPlace(l + 1, pieceLower[i]);
-                    int b = listedPlace(l + 1, pieceLower[j]);
-                    int order = place[pieceUpper[i]] - place[pieceUpper[j]];
+                    int b = slot[pieceLower[j]];
+                    int order = above - place[pieceUpper[j]];
                     if (a != b && order > 0) {
                         pair[a * SMALL_LAYER + b]++;
                     } else if (a != b && order < 0) {
@@ -2638,15 +2653,6 @@ public final class DrawingHouse {
                     }
                 }
             }
-        }
-
-        private int listedPlace(int l, int item) {
-            for (int k = layerStart[l]; k < layerStart[l + 1]; k++) {
-                if (listed[k] == item) {
-                    return k - layerStart[l];
-                }
-            }
-            return 0;
         }
 
         private int pairCost(int packed, int size) {
@@ -2660,30 +2666,68 @@ public final class DrawingHouse {
             return cost;
         }
 
-        /** No order of the layer can cost less than the cheaper one of each two. */
-        private int pairBound(int size) {
-            int bound = 0;
+        /** Takes off each pair what both its orders cost, and answers that in sum: no order costs less. */
+        private int settlePairs(int size) {
+            int settled = 0;
             for (int a = 0; a < size; a++) {
                 for (int b = a + 1; b < size; b++) {
-                    bound += Math.min(pair[a * SMALL_LAYER + b], pair[b * SMALL_LAYER + a]);
+                    int both = Math.min(pair[a * SMALL_LAYER + b], pair[b * SMALL_LAYER + a]);
+                    pair[a * SMALL_LAYER + b] -= both;
+                    pair[b * SMALL_LAYER + a] -= both;
+                    settled += both;
                 }
             }
-            return bound;
+            return settled;
         }
 
-        private int leastBelow(int l, int below) {
-            int size = sizeOf(l);
-            int first = firstOrder(size);
-            int count = countOrders(size);
-            int bound = pairBound(size);
-            int best = MILLION;
-            for (int k = 0; k < count && best > bound + below; k++) {
-                int rest = least[l * ORDERS + k];
-                if (rest + bound < best) {
-                    best = Math.min(best, rest + pairCost(orders[first + k], size));
+        /**
+         * Finds the least crossings further down for all orders of a layer with the same beginning:
+         * low[r * ORDERS + k] for those from order k on that differ in their last r places alone.
+         */
+        private void fillLow(int l) {
+            int count = countOrders(sizeOf(l));
+            System.arraycopy(least, l * ORDERS, low, ORDERS, count);
+            for (int r = 2; r <= sizeOf(l); r++) {
+                int share = countOrders(r - 1);
+                for (int k = 0; k < count; k += r * share) {
+                    int found = MILLION;
+                    for (int i = 0; i < r; i++) {
+                        found = Math.min(found, low[(r - 1) * ORDERS + k + i * share]);
+                    }
+                    low[r * ORDERS + k] = found;
                 }
             }
-            return best;
+        }
+
+        /**
+         * The least crossings with an order of a layer of which some items are left to be placed, if
+         * that is below the best so far. (first: the first of the orders with this beginning.) It
+         * goes no deeper than a layer has items.
+         */
+        private int seek(int first, int left, int cost, int best) {
+            int size = Integer.bitCount(left);
+            if (size <= 1) {
+                return Math.min(best, cost + low[ORDERS + first]);
+            }
+            int found = best;
+            int next = first;
+            for (int a = 0; a < SMALL_LAYER; a++) {
+                if ((left >> a & 1) == 0) {
+                    continue;
+                }
+                int rest = left & ~(1 << a);
+                int now = cost + low[(size - 1) * ORDERS + next];
+                for (int b = 0; b < SMALL_LAYER && now < found; b++) {
+                    if ((rest >> b & 1) != 0) {
+                        now += pair[a * SMALL_LAYER + b];
+                    }
+                }
+                if (now < found) {
+                    found = seek(next, rest, now - low[(size - 1) * ORDERS + next], found);
+                }
+                next += countOrders(size - 1);
+            }
+            return found;
         }
 
         private int firstBelow(int l, int wanted) {
@@ -3708,15 +3752,19 @@ public final class DrawingHouse {
         }
 
         private void bar(int a, int b) {
-            Arrays.fill(barred, false);
+            for (int p = 0; p < MAX_GRID; p++) {
+                barred[p] = false;
+            }
             for (int i = 0; i < graph.nodes; i++) {
                 if (i == a || i == b) {
                     continue;
                 }
                 int half = graph.half(i);
                 for (int dy = -1; dy <= 1; dy++) {
-                    int p = pointOf(i) + dy * width;
-                    Arrays.fill(barred, p - half, p + half + 1, true);
+                    int middle = pointOf(i) + dy * width;
+                    for (int p = middle - half; p <= middle + half; p++) {
+                        barred[p] = true;
+                    }
                 }
             }
         }
@@ -4022,7 +4070,9 @@ public final class DrawingHouse {
                 if (!readValue("weight", MAX_WEIGHT)) {
                     return false;
                 }
-                Arrays.fill(graph.weight, first, graph.edges, number);
+                for (int e = first; e < graph.edges; e++) {
+                    graph.weight[e] = number;
+                }
                 advance();
             }
             return kind == ';' || fail(1);
