@@ -2420,7 +2420,6 @@ public final class DrawingHouse {
         private final int[] listed = new int[MAX_ITEMS];
         private final int[] slot = new int[MAX_ITEMS];
         private final int[] row = new int[MAX_ITEMS];
-        private final int[] bestRow = new int[MAX_ITEMS];
         private final int[] place = new int[MAX_ITEMS];
         /** For each item the sum of the places of what it is joined to, and of how many. */
         private final int[] sum = new int[MAX_ITEMS];
@@ -2744,8 +2743,8 @@ public final class DrawingHouse {
         }
 
         private void sweep() {
+            // The list itself is the first order asked, and holds the best one from then on.
             int fewest = countCrossings();
-            System.arraycopy(row, 0, bestRow, 0, items);
             for (int k = 0; k < SWEEPS; k++) {
                 if (k % 2 == 0) {
                     for (int l = 1; l < layerCount; l++) {
@@ -2759,10 +2758,10 @@ public final class DrawingHouse {
                 int found = countCrossings();
                 if (found < fewest) {
                     fewest = found;
-                    System.arraycopy(row, 0, bestRow, 0, items);
+                    System.arraycopy(row, 0, listed, 0, items);
                 }
             }
-            System.arraycopy(bestRow, 0, row, 0, items);
+            System.arraycopy(listed, 0, row, 0, items);
             for (int l = 0; l < layerCount; l++) {
                 setPlaces(l);
             }
