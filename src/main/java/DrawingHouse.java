@@ -953,6 +953,9 @@ public final class DrawingHouse {
 
         /** Takes the latest change back (redo 0), or does the latest one taken back again (1). */
         boolean step(int redo) {
+            if (past == null) {
+                return false;
+            }
             if (redo == 0 && done > 0) {
                 done--;
                 undone++;
@@ -1622,10 +1625,9 @@ public final class DrawingHouse {
             for (int b = 0; b < blocks; b++) {
                 int left = beginBlock(b);
                 for (int k = 0; k < NET_EDGES && left > 0; k++) {
-                    if (!pickPiece(b)) {
+                    if (!pickPiece(b) || !findWay()) {
                         return false;
                     }
-                    findWay();
                     splitCycle();
                     left -= wayLength - 1;
                 }
@@ -1742,7 +1744,8 @@ public final class DrawingHouse {
             return 0;
         }
 
-        private void findWay() {
+        /** Each piece of a block has a way, and each face a place: what is asked here keeps indices safe. */
+        private boolean findWay() {
             int a = Facts.lowest(pieceEnds);
             int others = pieceEnds & ~(1 << a);
             if (pieceNodes == 0) {
@@ -1753,6 +1756,7 @@ public final class DrawingHouse {
                 wayLength = Facts.shortestWay(net.near, net.nodes, a, others, pieceNodes, level, way);
             }
             drawWay();
+            return wayLength >= 2 && cycles < MAX_CYCLES;
         }
 
         private void splitCycle() {
@@ -1776,10 +1780,10 @@ public final class DrawingHouse {
 
         /** The face's row from one node as it goes to another, into the fresh row: its length. */
         private int copyStretch(int c, int from, int to) {
-            int at = indexIn(c, from);
+            int start = indexIn(c, from);
             int length = 0;
             for (int k = 0; k < cycleLength[c]; k++) {
-                int v = cycle[c * NET_NODES + (at + k) % cycleLength[c]];
+                int v = cycle[c * NET_NODES + (start + k) % cycleLength[c]];
                 fresh[length] = v;
                 length++;
                 if (v == to) {
@@ -1791,10 +1795,10 @@ public final class DrawingHouse {
 
         /** The other half, with the way on to its end, straight into the last row. */
         private int copyOther(int c, int from, int to) {
-            int at = indexIn(c, from);
+            int start = indexIn(c, from);
             int length = 0;
             for (int k = 0; k < cycleLength[c]; k++) {
-                int v = cycle[c * NET_NODES + (at + k) % cycleLength[c]];
+                int v = cycle[c * NET_NODES + (start + k) % cycleLength[c]];
                 cycle[cycles * NET_NODES + length] = v;
                 length++;
                 if (v == to) {
@@ -3024,7 +3028,7 @@ public final class DrawingHouse {
         /** Puts the first nodes of the way in the place of some of the line. */
         private void replaceInLine(int start, int gone, int count) {
             int rest = lineLength - start - gone;
-            if (lineLength - gone + count > MAX_NODES || rest < 0) {
+            if (lineLength - gone + count > MAX_NODES || rest < 0 || gone < 0) {
                 return;
             }
             System.arraycopy(line, start + gone, line, start + count, rest);

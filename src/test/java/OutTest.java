@@ -79,10 +79,14 @@ public final class OutTest {
         String latest = Check.written(house);
         int length = latest.length();
         int want = length;
+        int lastEdge = 0;
+        int lastBend = 0;
         for (int e = 0; e < 48 && want <= 4000; e++) {
             for (int k = 0; k < house.at(0, 2, e, 0) && want <= 4000; k++) {
                 int old = String.valueOf(house.at(0, 3, e, k)).length() + String.valueOf(house.at(0, 4, e, k)).length();
                 house.put(0, e, k, -1000000, -1000000);
+                lastEdge = e;
+                lastBend = k;
                 want += 16 - old;
                 Check.due("text of " + want, house.text(0, 1), want <= 4000 ? want : -1);
                 length = want <= 4000 ? want : length;
@@ -91,6 +95,19 @@ public final class OutTest {
         Check.due("more than 4,000", want > 4000, true);
         Check.due("the latest one stays", house.octet(length - 1), 10);
         Check.due("the latest one stays", house.octet(length), -1);
+        // The last point's numbers decide: shorter by just what is too much, and by one less.
+        int room = 16 - (want - 4000);
+        house.put(0, lastEdge, lastBend, numberOf(Math.min(room - 1, 8)), numberOf(room - Math.min(room - 1, 8)));
+        Check.due("4,000 bytes", house.text(0, 1), 4000);
+        room++;
+        house.put(0, lastEdge, lastBend, numberOf(Math.min(room - 1, 8)), numberOf(room - Math.min(room - 1, 8)));
+        Check.due("4,001 bytes", house.text(0, 1), -1);
+        Check.due("the latest one stays", house.octet(3999), 10);
+    }
+
+    /** A number that is written with so many bytes. */
+    private static int numberOf(int bytes) {
+        return bytes == 8 ? -1000000 : Integer.parseInt("1" + "0".repeat(bytes - 1));
     }
 
     private static void dotsOfADrawing() {
