@@ -113,6 +113,22 @@ public final class PointsTest {
         Check.due("bends", bends(inside, 0), "20,-1 0,-1 ");
         inside.put(0, 2, -1, 20, 0);
         Check.due("no way out of a box's middle", inside.route(0, 0), -4);
+        aMazeHasTooManyBends();
+    }
+
+    private static void aMazeHasTooManyBends() {
+        StringBuilder graph = new StringBuilder();
+        for (int k = 0; k < 24; k++) {
+            graph.append("node ").append((char) ('a' + k)).append(';');
+        }
+        DrawingHouse maze = placed(graph + "a-b;", 8, 1, 18, 22, 15, 3, 11, 15, 23, 21, 5, 16, 7, 3, 11, 8, 4, 2, 16, 16, 17, 3, 9, 19,
+                13, 22, 13, 1, 9, 5, 18, 24, 17, 5, -2, 15, 6, 12, 9, -1, 20, 19, 0, 8, 13, 10, 5, 10);
+        Check.due("a way with 24 bends", maze.route(0, 0), 0);
+        String before = bends(maze, 0);
+        Check.due("bends", maze.at(0, 2, 0, 0), 24);
+        maze.put(0, 0, -1, 8, 2);
+        Check.due("with more", maze.route(0, 0), -3);
+        Check.due("its bends stay", bends(maze, 0), before);
     }
 
     private static void labelsArePlaced() {
