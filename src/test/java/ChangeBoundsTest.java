@@ -40,18 +40,16 @@ public final class ChangeBoundsTest {
 
     private static void newNodesAreNamedByTheirNumber() {
         DrawingHouse house = new DrawingHouse();
-        for (int k = 0; k < 12; k++) {
+        for (int k = 0; k < 24; k++) {
             Check.due("node " + k, house.change(0, 0, 0, Integer.MIN_VALUE), k);
+            String name = "n" + k;
+            for (int i = 0; i < name.length(); i++) {
+                Check.due("letter " + i + " of " + name, house.letter(0, 0, k, i), name.charAt(i));
+            }
+            Check.due("bytes of " + name, house.node(0, k, 0), name.length());
+            Check.due("size 1", house.node(0, k, 1), 1);
+            Check.due("no neighbours", house.node(0, k, 3), 0);
         }
-        Check.due("bytes of n9", house.node(0, 9, 0), 2);
-        Check.due("n9", house.letter(0, 0, 9, 1), '9');
-        Check.due("bytes of n10", house.node(0, 10, 0), 3);
-        Check.due("n", house.letter(0, 0, 11, 0), 'n');
-        Check.due("1", house.letter(0, 0, 10, 1), '1');
-        Check.due("0", house.letter(0, 0, 10, 2), '0');
-        Check.due("1", house.letter(0, 0, 11, 2), '1');
-        Check.due("size 1", house.node(0, 11, 1), 1);
-        Check.due("no neighbours", house.node(0, 11, 3), 0);
     }
 
     private static void aNameThatIsThere() {
@@ -148,6 +146,7 @@ public final class ChangeBoundsTest {
         made(house, 2, 0, 0, 0);
         Check.due("weight of what was edge 1", house.edge(0, 0, 2), 3);
         Check.due("edges", house.count(0, 1), 2);
+        allOfAnEdgeGoesDown();
         made(house, 3, 3, 0, 0);
         refused(house, 3, 3, 0);
         Check.due("d's edge is gone", house.count(0, 1), 1);
@@ -160,6 +159,28 @@ public final class ChangeBoundsTest {
         refused(house, 2, 0, 0);
         Check.due("no nodes", house.count(0, 0), 0);
         Check.due("no edges", house.count(0, 1), 0);
+    }
+
+    private static void allOfAnEdgeGoesDown() {
+        DrawingHouse house = Check.house("group g{node a[size=2];}node bb[size=3];node c[size=4];a-bb;bb>c[weight=5];c-d[weight=6];d>a;");
+        int[][] edges = {{1, 2, 5, 1}, {2, 3, 6, 0}, {3, 0, 1, 1}};
+        made(house, 2, 0, 0, 0);
+        for (int e = 0; e < 3; e++) {
+            for (int what = 0; what < 4; what++) {
+                Check.due("edge " + e + ", " + what, house.edge(0, e, what), edges[e][what]);
+            }
+        }
+        made(house, 3, 0, 0, 0);
+        int[][] nodes = {{2, 3, 0}, {1, 4, 0}, {1, 1, 0}};
+        for (int i = 0; i < 3; i++) {
+            for (int what = 0; what < 3; what++) {
+                Check.due("node " + i + ", " + what, house.node(0, i, what), nodes[i][what]);
+            }
+        }
+        Check.due("tail of what was edge 1", house.edge(0, 0, 0), 0);
+        Check.due("head of what was edge 2", house.edge(0, 1, 1), 2);
+        Check.due("one-way of what was edge 2", house.edge(0, 1, 3), 0);
+        Check.due("edges", house.count(0, 1), 2);
     }
 
     private static void sizesAreOneTo99() {

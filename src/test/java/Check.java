@@ -57,8 +57,10 @@ final class Check {
     /** The latest text. */
     static String written(DrawingHouse house) {
         StringBuilder text = new StringBuilder();
-        for (int i = 0; house.octet(i) != DrawingHouse.NONE; i++) {
-            text.append((char) house.octet(i));
+        int octet = house.octet(0);
+        for (int i = 1; octet != DrawingHouse.NONE; i++) {
+            text.append((char) octet);
+            octet = house.octet(i);
         }
         return text.toString();
     }

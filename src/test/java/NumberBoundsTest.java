@@ -223,6 +223,14 @@ public final class NumberBoundsTest {
         for (int what = 10; what <= 13; what++) {
             Check.due("an empty group's, " + what, house.told(0, what, 2), 0);
         }
+        // More nodes than groups, then more groups than nodes.
+        Check.due("group 3", house.told(0, 10, 3), -1);
+        DrawingHouse few = Check.house("group g{}group h{}node a;");
+        few.draw(0, 4, 8);
+        for (int what = 6; what <= 13; what++) {
+            Check.due("told " + what + " of 1", few.told(0, what, 1), what < 10 ? -1 : 0);
+            Check.due("told " + what + " of 3", few.told(0, what, 3), -1);
+        }
     }
 
     private static void labelsAndRules() {

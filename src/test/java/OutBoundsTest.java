@@ -178,6 +178,10 @@ public final class OutBoundsTest {
         Check.due("a level line", level.dots(0, 64, 64), 64);
         Check.due("in the first row", level.dot(63, 0), 128);
         Check.due("by its edge", level.dot(62, 0), 1);
+        DrawingHouse near = placed("node a;node b;", 8, -3, 9, -4);
+        Check.due("points one apart", near.dots(0, 64, 63), 2);
+        Check.due("at the right side", near.dot(63, 0), 128);
+        Check.due("at the lower side", near.dot(0, 62), 128);
     }
 
     private static void theFarthestPoints() {

@@ -1,3 +1,5 @@
+import java.util.Random;
+
 /** The bounds of points, routes, labels and the judge (PARTS 4 to 6, promises 18 and 20 to 23). */
 public final class PointBoundsTest {
     private static final int NO_POINT = Integer.MIN_VALUE;
@@ -21,6 +23,9 @@ public final class PointBoundsTest {
         rulesAtTheFarthestPoints();
         rulesOfPiecesWithoutLength();
         trianglesWithoutArea();
+        allPiecesOnASmallGrid();
+        allPiecesAtOneNode();
+        bentEdgesOnASmallGrid();
         Check.end();
     }
 
@@ -302,5 +307,150 @@ public final class PointBoundsTest {
         Check.due("no triangle", placed("a-b-c-d-a;", 0, 0, 1, 0, 1, 1, 0, 1).judge(0, 9), -1);
         Check.due("the least of two", placed("a-b-c-a;c-d-a;", 0, 0, 9, 0, 0, 9, 0, 2).judge(0, 9), 0);
         Check.due("the last of three", placed("a-b-c-a;c-d-e-c;a-e;", 0, 0, 9, 0, 0, 9, 2, 9, 1, 8).judge(0, 9), 2);
+    }
+
+    private static long cross(long ax, long ay, long bx, long by) {
+        return ax * by - ay * bx;
+    }
+
+    private static boolean isOn(int[] p, int[] a, int[] b) {
+        boolean inLine = cross(b[0] - a[0], b[1] - a[1], p[0] - a[0], p[1] - a[1]) == 0;
+        long ahead = (long) (p[0] - a[0]) * (p[0] - b[0]) + (long) (p[1] - a[1]) * (p[1] - b[1]);
+        return inLine && ahead <= 0;
+    }
+
+    /** Whether two pieces meet: by how far along each of them their lines do, or by an end that lies on the other one. */
+    private static boolean meet(int[] a, int[] b, int[] c, int[] d) {
+        long dx = b[0] - a[0];
+        long dy = b[1] - a[1];
+        long ex = d[0] - c[0];
+        long ey = d[1] - c[1];
+        long turn = cross(dx, dy, ex, ey);
+        if (turn == 0) {
+            return isOn(a, c, d) || isOn(b, c, d) || isOn(c, a, b) || isOn(d, a, b);
+        }
+        long sign = turn < 0 ? -1 : 1;
+        long first = sign * cross(c[0] - a[0], c[1] - a[1], ex, ey);
+        long second = sign * cross(c[0] - a[0], c[1] - a[1], dx, dy);
+        return first >= 0 && first <= sign * turn && second >= 0 && second <= sign * turn;
+    }
+
+    /** Whether they meet elsewhere than at a node's point that both have. */
+    private static boolean meetElsewhere(int[] a, int[] b, int[] c, int[] d, int[] node) {
+        if (!meet(a, b, c, d)) {
+            return false;
+        }
+        if (!isOn(node, a, b) || !isOn(node, c, d)) {
+            return true;
+        }
+        // Both have the node's point: another one if an end of one that is not that point lies on the other one.
+        int[][] ends = {a, b, c, d};
+        boolean found = false;
+        for (int k = 0; k < 4; k++) {
+            boolean other = ends[k][0] != node[0] || ends[k][1] != node[1];
+            found = found || other && (k < 2 ? isOn(ends[k], c, d) : isOn(ends[k], a, b));
+        }
+        return found;
+    }
+
+    private static int[] point(int k, int side) {
+        return new int[] {k % side, k / side};
+    }
+
+    private static void allPiecesOnASmallGrid() {
+        DrawingHouse house = null;
+        for (int k = 0; k < 9 * 9 * 9 * 9; k++) {
+            if (k % 80 == 0) {
+                house = Check.house("a-b;c-d;");
+                house.draw(0, 7, 0);
+            }
+            int[][] p = {point(k % 9, 3), point(k / 9 % 9, 3), point(k / 81 % 9, 3), point(k / 729, 3)};
+            for (int i = 0; i < 4; i++) {
+                house.put(0, i, -1, p[i][0], p[i][1]);
+            }
+            Check.due("pieces of grid " + k, house.judge(0, 0), meet(p[0], p[1], p[2], p[3]) ? 1 : 0);
+        }
+    }
+
+    private static void allPiecesAtOneNode() {
+        DrawingHouse house = null;
+        for (int k = 0; k < 16 * 16 * 16; k++) {
+            if (k % 100 == 0) {
+                house = Check.house("a-b;c-a;");
+                house.draw(0, 7, 0);
+            }
+            int[][] p = {point(k % 16, 4), point(k / 16 % 16, 4), point(k / 256, 4)};
+            for (int i = 0; i < 3; i++) {
+                house.put(0, i, -1, p[i][0], p[i][1]);
+            }
+            Check.due("pieces at a node " + k, house.judge(0, 0), meetElsewhere(p[0], p[1], p[2], p[0], p[0]) ? 1 : 0);
+        }
+    }
+
+    /** Two rings of three whose last edges have a bend, with all points on a small grid. */
+    private static void bentEdgesOnASmallGrid() {
+        int[][] edges = {{0, 1}, {1, 2}, {2, 0}, {3, 4}, {4, 5}, {5, 3}};
+        Random random = new Random(7);
+        for (int run = 0; run < 2000; run++) {
+            DrawingHouse house = Check.house("a>b>c>a;x>y>z>x;");
+            house.draw(0, 0, 0);
+            int[][] p = new int[8][];
+            for (int i = 0; i < 8; i++) {
+                p[i] = point(random.nextInt(25), 5);
+                house.put(0, i < 6 ? i : 3 * i - 16, i < 6 ? -1 : 0, p[i][0], p[i][1]);
+            }
+            int[][][] way = new int[6][][];
+            for (int e = 0; e < 6; e++) {
+                int[] a = p[edges[e][0]];
+                int[] b = p[edges[e][1]];
+                way[e] = e == 2 ? new int[][] {a, p[6], b} : e == 5 ? new int[][] {a, p[7], b} : new int[][] {a, b};
+            }
+            Check.due("crossings of run " + run, house.judge(0, 0), crossings(edges, way, p));
+            Check.due("struck nodes of run " + run, house.judge(0, 2), struck(edges, way, p));
+            Check.due("upward edges of run " + run, house.judge(0, 3), upward(way));
+        }
+    }
+
+    private static int crossings(int[][] edges, int[][][] way, int[][] p) {
+        int found = 0;
+        for (int e = 0; e < 6; e++) {
+            for (int f = e + 1; f < 6; f++) {
+                int[] node = e / 3 != f / 3 ? null : p[edges[e][1] == edges[f][0] ? edges[e][1] : edges[e][0]];
+                for (int i = 0; i + 1 < way[e].length; i++) {
+                    for (int j = 0; j + 1 < way[f].length; j++) {
+                        int[][] q = {way[e][i], way[e][i + 1], way[f][j], way[f][j + 1]};
+                        boolean meet = node == null ? meet(q[0], q[1], q[2], q[3]) : meetElsewhere(q[0], q[1], q[2], q[3], node);
+                        found += meet ? 1 : 0;
+                    }
+                }
+            }
+        }
+        return found;
+    }
+
+    private static int struck(int[][] edges, int[][][] way, int[][] p) {
+        int found = 0;
+        for (int e = 0; e < 6; e++) {
+            for (int v = 0; v < 6; v++) {
+                boolean on = false;
+                for (int i = 0; i + 1 < way[e].length; i++) {
+                    on = on || isOn(p[v], way[e][i], way[e][i + 1]);
+                }
+                found += on && v != edges[e][0] && v != edges[e][1] ? 1 : 0;
+            }
+        }
+        return found;
+    }
+
+    private static int upward(int[][][] way) {
+        int found = 0;
+        for (int e = 0; e < 6; e++) {
+            boolean up = false;
+            for (int i = 0; i + 1 < way[e].length; i++) {
+                up = up || way[e][i + 1][1] <= way[e][i][1];
+            }
+            found += up ? 1 : 0;
+        }
+        return found;
     }
 }

@@ -23,6 +23,8 @@ public final class StyleBoundsTest {
         asManyRulesAsTheTapeHolds();
         aFaultChangesNothing();
         shadesAre0AtFirst();
+        bytesBehindTheFirstAreNotLookedAt();
+        testsAreJoined();
         Check.end();
     }
 
@@ -350,5 +352,50 @@ public final class StyleBoundsTest {
         Check.due("a drawing leaves them", house.shade(0, 1, 0, 0), 7);
         house.change(0, 4, 0, 1);
         Check.due("a change sets all to 0", house.shade(0, 0, 0, 0) + house.shade(0, 1, 0, 0), 0);
+    }
+
+    /** The first n bytes alone: a token that would go on behind them ends there. */
+    private static void bytesBehindTheFirstAreNotLookedAt() {
+        cut("node if 1=1:form=1;edge", "s", "1@23");
+        cut("node if 1=1:form=1;node", "edgeedge", "1@23");
+        cut("node if 1=1", "2345:form=1;", "1@11");
+        cut("node if 1=1:form=1;", "$", FINE);
+        cut("node if 1=1:form=1", ";", "1@18");
+        cut("node if not", "e 1=1:form=1;", "1@11");
+        cut("", "node", FINE);
+    }
+
+    private static void cut(String text, String rest, String want) {
+        DrawingHouse house = Check.house("a-b;");
+        Check.feed(house, text + rest);
+        house.style(0, text.length());
+        Check.due("<" + text + "> ahead of <" + rest + ">", house.fault(0) + "@" + house.fault(1), want);
+    }
+
+    /** All tests that hold, and all that do not, go together by and, or and not. */
+    private static void testsAreJoined() {
+        String[] right = {"1<2", "2>1", "1=1", "not 1=2", "{2>1}", "not not 1<2"};
+        String[] wrong = {"2<1", "1>2", "1=2", "not 1=1", "{1>2}", "1<1", "1>1"};
+        for (String a : right) {
+            test(a, true);
+            for (String b : right) {
+                test(a + " and " + b, true);
+                test("not {" + a + " and " + b + "}", false);
+            }
+            for (String b : wrong) {
+                test(a + " and " + b, false);
+                test(b + " and " + a, false);
+                test(a + " or " + b, true);
+                test(b + " or " + a, true);
+                test(b + " and " + b + " or " + a, true);
+                test(a + " or " + b + " and " + b, true);
+            }
+        }
+        for (String a : wrong) {
+            test(a, false);
+            for (String b : wrong) {
+                test(a + " or " + b, false);
+            }
+        }
     }
 }

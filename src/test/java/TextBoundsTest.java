@@ -27,6 +27,7 @@ public final class TextBoundsTest {
         fourGroupsLieWithinEachOther();
         theFirstFaultFromTheLeft();
         aTextMayHaveNoNodes();
+        bytesBehindTheFirstAreNotLookedAt();
         Check.end();
     }
 
@@ -397,5 +398,27 @@ public final class TextBoundsTest {
         Check.due("nothing to take back", house.back(0, 0), false);
         Check.due("a group without nodes", Check.read(house, 0, "group g{}"), 0);
         Check.due("is there", house.count(0, 2), 2);
+    }
+
+    /** The first n bytes alone: a token that would go on behind them ends there. */
+    private static void bytesBehindTheFirstAreNotLookedAt() {
+        cut("node a[size=99", "9];", "1@14");
+        cut("node a[size=1", "00];", "1@13");
+        cut("node a[size=100", "0];", "5@12");
+        cut("a-bcdefghi", "j;", "1@10");
+        cut("abcdefgh", "i-b;", "1@8");
+        cut("node", "s-a;", "1@4");
+        cut("a-b;", "$", FINE);
+        cut("a-b;a", "-b;", "1@5");
+        cut("group g{}", "}", FINE);
+        cut("node a[size", "d=1];", "1@11");
+        cut(" ", "x", FINE);
+    }
+
+    private static void cut(String text, String rest, String want) {
+        DrawingHouse house = new DrawingHouse();
+        Check.feed(house, text + rest);
+        house.read(0, text.length());
+        Check.due("<" + text + "> ahead of <" + rest + ">", house.fault(0) + "@" + house.fault(1), want);
     }
 }

@@ -13,6 +13,7 @@ public final class WayBoundsTest {
         aIsNotLookedAtByOthers();
         strongPartsOfSevenAndEight();
         layersOfSixAndSeven();
+        sweepsAreTen();
         layersHave72Items();
         gridNeedsThreeNodesAndAPlane();
         barsNeedOneBlock();
@@ -21,6 +22,7 @@ public final class WayBoundsTest {
         treePointsAreFourApart();
         areasAre8To512();
         areasOfNothing();
+        aSideOfNothingCountsAsOne();
         ringsOfEightAndNine();
         forcesHave0To200Steps();
         forcesAreBoundedBySteps();
@@ -144,6 +146,14 @@ public final class WayBoundsTest {
         Check.due("crossings", seven.told(0, 1, 0), 10);
         Check.due("layer 0", level(seven, 0), "abc");
         Check.due("layer 1", level(seven, 5), "edghjfi");
+    }
+
+    /** The tenth sweep is the first with 6 crossings; an eleventh would have 5. */
+    private static void sweepsAreTen() {
+        DrawingHouse house = drawn(nodes(14) + "a>l;a>c;e>j;g>f;n>k;n>c;e>k;i>l;i>h;i>f;g>k;", 0, 0);
+        Check.due("crossings", house.told(0, 1, 0), 6);
+        Check.due("layer 0", level(house, 0), "abnigdem");
+        Check.due("layer 1", level(house, 5), "clhkfj");
     }
 
     private static void layersHave72Items() {
@@ -276,6 +286,22 @@ public final class WayBoundsTest {
             Check.due("y of " + i, house.at(0, 1, i, 0) >= 6 && house.at(0, 1, i, 0) <= 8, true);
         }
         Check.due("some have no area", none > 0, true);
+    }
+
+    /** The group's rectangle is 1 wide and 0 high: its height counts as 1 in shapes, so that a has a row of its own. */
+    private static void aSideOfNothingCountsAsOne() {
+        DrawingHouse house = drawn("group g{node a[size=2];node b;}node c[size=99];node d[size=99];node e[size=99];node f[size=9];node h;", 4, 8);
+        int[][] nodes = {{7, 7, 0, 0}, {7, 7, 1, 0}, {0, 0, 4, 5}, {4, 0, 4, 5}, {0, 5, 7, 3}, {7, 5, 1, 2}, {7, 7, 1, 1}};
+        for (int i = 0; i < 7; i++) {
+            for (int k = 0; k < 4; k++) {
+                Check.due("rectangle of node " + i + ", " + k, house.told(0, 6 + k, i), nodes[i][k]);
+            }
+        }
+        int[] group = {7, 7, 1, 0};
+        for (int k = 0; k < 4; k++) {
+            Check.due("rectangle of the group, " + k, house.told(0, 10 + k, 1), group[k]);
+        }
+        Check.due("a's point", house.at(0, 0, 0, 0) * 10 + house.at(0, 1, 0, 0), 77);
     }
 
     /** With eight nodes the best order of all counts; with nine nodes they are put in one by one, here to a worse one. */
