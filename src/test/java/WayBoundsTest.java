@@ -26,6 +26,7 @@ public final class WayBoundsTest {
         ringsOfEightAndNine();
         forcesHave0To200Steps();
         forcesAreBoundedBySteps();
+        nodesThatMeet();
         theMatrixOfFullAndEmptyGraphs();
         whatIsRefusedLeavesTheDrawing();
         anotherWayTakesItsPlace();
@@ -131,6 +132,9 @@ public final class WayBoundsTest {
         turned(nodes(8) + "c>g;f>c[weight=2];a>b;d>h;b>d;h>f[weight=2];g>e;g>f;e>a[weight=2];c>h;", "0000001101");
         turned(nodes(8) + "e>a;d>c[weight=3];h>g[weight=2];f>e[weight=2];g>f[weight=2];b>d[weight=3];a>d[weight=3];a>b[weight=3];"
                 + "b>g;c>a;g>c[weight=2];e>h[weight=3];", "100100000100");
+        // Edges that lead out of the part, here to a and f, don't count in its order.
+        turned(nodes(10) + "b>a;i>h;j>g[weight=3];d>i[weight=2];j>d;c>e[weight=2];b>h;h>a[weight=3];e>g[weight=2];h>j[weight=2];"
+                + "h>g[weight=3];g>f;c>b[weight=2];b>d;e>j;g>c[weight=2];", "0100001000000011");
         // A strong part of one node has no edge to turn, one of two can't be; edges that are not one-way go one way here.
         turned("a>b;b>c;", "00");
         turned("a-b-c-a;", "001");
@@ -347,18 +351,40 @@ public final class WayBoundsTest {
         Check.due("places", Check.text(house, 0, 1), "a 0 0\nb 148 236\nc 40 216\n0 1\n1 2\n");
     }
 
+    /** The bound is 256 for steps 0 to 15, 128 for 16 to 31, 85 for 32 to 47; 21 for the last, step 199. */
     private static void forcesAreBoundedBySteps() {
-        // The pull is far above the bound: each of the first steps moves by 256 sixteenths.
-        String graph = "node a;node b;a-b[weight=9];";
-        int[] steps = {0, 1, 2};
-        int[] x = {0, 16, 32};
-        for (int k = 0; k < 3; k++) {
-            DrawingHouse house = drawn(graph, 6, steps[k]);
-            Check.due("x of a behind " + steps[k], house.at(0, 0, 0, 0), x[k]);
-            Check.due("y of a behind " + steps[k], house.at(0, 1, 0, 0), x[k]);
-            Check.due("x of b behind " + steps[k], house.at(0, 0, 1, 0), 148 - x[k]);
-            Check.due("y of b behind " + steps[k], house.at(0, 1, 1, 0), 236 - x[k]);
+        String graph = "a-b[weight=9];a-c;b-d;e-a;";
+        forced(graph, 0, "0 148 40 188 80", "0 236 216 196 176");
+        forced(graph, 1, "16 132 24 172 64", "16 220 200 212 160");
+        forced(graph, 15, "80 68 31 66 89", "119 124 101 170 79");
+        forced(graph, 16, "64 73 47 67 91", "103 140 109 154 89");
+        forced(graph, 17, "72 65 39 63 93", "111 132 105 162 82");
+        forced(graph, 31, "58 76 37 75 83", "111 132 103 159 89");
+        forced(graph, 32, "66 68 29 78 82", "119 124 96 167 84");
+        forced(graph, 33, "61 74 35 75 82", "113 129 102 162 89");
+        forced(graph, 199, "65 71 30 88 78", "116 130 106 162 83");
+        forced(graph, 200, "63 73 31 87 78", "114 131 107 161 84");
+    }
+
+    /** Ahead of step 17 nodes a and e are at one point: a, with the lesser number, goes to the left, e to the right. */
+    private static void nodesThatMeet() {
+        forced(nodes(5) + "e-a[weight=9];", 17, "40 171 -21 269 40", "88 304 270 177 88");
+        forced(nodes(5) + "e-a[weight=9];", 18, "32 172 -24 273 48", "85 307 273 176 85");
+        forced(nodes(5) + "a-e[weight=9];", 20, "39 175 -29 280 39", "91 313 278 174 75");
+        forced(nodes(5) + "e>a[weight=8];", 40, "30 197 -76 338 46", "91 364 318 161 75");
+        forced(nodes(5) + "e-a[weight=9];", 80, "30 234 -152 427 44", "87 441 376 137 75");
+    }
+
+    private static void forced(String graph, int steps, String x, String y) {
+        DrawingHouse house = drawn(graph, 6, steps);
+        StringBuilder rowX = new StringBuilder();
+        StringBuilder rowY = new StringBuilder();
+        for (int i = 0; i < house.count(0, 0); i++) {
+            rowX.append(i == 0 ? "" : " ").append(house.at(0, 0, i, 0));
+            rowY.append(i == 0 ? "" : " ").append(house.at(0, 1, i, 0));
         }
+        Check.due("x behind " + steps + " steps of " + graph, rowX.toString(), x);
+        Check.due("y behind " + steps + " steps of " + graph, rowY.toString(), y);
     }
 
     private static void theMatrixOfFullAndEmptyGraphs() {
