@@ -11,6 +11,7 @@ public final class PointBoundsTest {
         nodesAndBendsThatThereAre();
         noDrawing();
         routesOver6000Points();
+        routesFarFromTheMiddle();
         routesAreBoundedByTheMargin();
         routesOutOfAndIntoBoxes();
         routesWith24Bends();
@@ -127,6 +128,27 @@ public final class PointBoundsTest {
         house.put(0, 0, -1, -MOST, -MOST);
         Check.due("far apart", house.route(0, 0), -2);
         Check.due("its bends stay", bends(house, 0), "66,0 ");
+    }
+
+    /** The least rectangle round all boxes, wherever they are, and wherever those of an earlier route were. */
+    private static void routesFarFromTheMiddle() {
+        int[] far = {0, 100, -100, MOST - 100, 100 - MOST};
+        DrawingHouse house = placed("a-b;node c;", new int[6]);
+        for (int dx : far) {
+            for (int dy : far) {
+                house.put(0, 0, -1, dx, dy);
+                house.put(0, 1, -1, dx + 66, dy + 73);
+                house.put(0, 2, -1, dx + 33, dy);
+                Check.due("75 times 80 at " + dx + ", " + dy, house.route(0, 0), 0);
+                String want = dx + "," + (dy + 73) + " ";
+                Check.due("down, then to the right, as c is in between", bends(house, 0), want);
+                house.put(0, 1, -1, dx + 67, dy + 73);
+                Check.due("76 times 80", house.route(0, 0), -2);
+                house.put(0, 1, -1, dx + 66, dy + 74);
+                Check.due("75 times 81", house.route(0, 0), -2);
+                Check.due("its bends stay", bends(house, 0), want);
+            }
+        }
     }
 
     private static void routesAreBoundedByTheMargin() {

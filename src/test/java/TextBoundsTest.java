@@ -23,6 +23,7 @@ public final class TextBoundsTest {
         twoNodesHaveOneEdge();
         thereAre24Nodes();
         thereAre48Edges();
+        oneItemMayHave48Edges();
         thereAre8Groups();
         fourGroupsLieWithinEachOther();
         theFirstFaultFromTheLeft();
@@ -342,6 +343,39 @@ public final class TextBoundsTest {
         Check.due("48 edges", house.count(0, 1), 48);
         Check.due("the last one", house.edge(0, 47, 3), 1);
         Check.due("no other", house.edge(0, 48, 3), -1);
+    }
+
+    /** Rings over 11 nodes by steps of 1, 2, 3, 4, 5 go along 55 edges, none of them twice: 49 names have 48. */
+    private static String chain(int names) {
+        StringBuilder text = new StringBuilder();
+        int at = 0;
+        for (int k = 0; k < names; k++) {
+            text.append(k == 0 ? "v" : k % 2 == 0 ? ">v" : "-v").append((char) ('a' + at));
+            at = (at + 1 + k / 11) % 11;
+        }
+        return text.toString();
+    }
+
+    private static void oneItemMayHave48Edges() {
+        String full = chain(49);
+        fault(full + ";", FINE);
+        fault(full + "[weight=9];", FINE);
+        fault(chain(50) + ";", "3@" + (chain(50).length() - 2));
+        fault(chain(51) + ";", "3@" + (chain(50).length() - 2));
+        fault(chain(50), "3@" + (chain(50).length() - 2));
+        fault(full + "-vz;", "3@" + (full.length() + 1));
+        // What is there already, and what does not go on, are told ahead of there being too many.
+        String last = full.substring(full.length() - 2);
+        fault(full + "-" + last + ";", "2@" + (full.length() + 1));
+        fault(full + "-;", "1@" + (full.length() + 1));
+        fault(full + ">>", "1@" + (full.length() + 1));
+        fault(full + "[weight=0];", "5@" + (full.length() + 8));
+        fault(full, "1@" + full.length());
+        DrawingHouse house = Check.house(full + "[weight=9];");
+        Check.due("edges of one item", house.count(0, 1), 48);
+        Check.due("its first edge's weight", house.edge(0, 0, 2), 9);
+        Check.due("its last edge's weight", house.edge(0, 47, 2), 9);
+        Check.due("every other one is one-way", house.edge(0, 46, 3) * 10 + house.edge(0, 47, 3), 1);
     }
 
     private static void thereAre8Groups() {

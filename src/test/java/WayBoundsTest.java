@@ -10,6 +10,9 @@ public final class WayBoundsTest {
         waysAreEight();
         noWayWithoutNodes();
         oneNodeByEachWay();
+        theFullestPlanarGraph();
+        theFullestOfAll();
+        theFullestLayers();
         aIsNotLookedAtByOthers();
         strongPartsOfSevenAndEight();
         layersOfSixAndSeven();
@@ -106,6 +109,71 @@ public final class WayBoundsTest {
             Check.due("its x", house.at(0, 0, 0, 0), want[way] == 0 ? x[way] : Integer.MIN_VALUE);
             Check.due("its y", house.at(0, 1, 0, 0), want[way] == 0 ? x[way] : Integer.MIN_VALUE);
         }
+    }
+
+    /** 24 nodes and 48 edges: two rings of 12, one within the other, with a band of triangles between them. */
+    private static void theFullestPlanarGraph() {
+        StringBuilder text = new StringBuilder();
+        for (int k = 0; k < 12; k++) {
+            char in = (char) ('a' + k);
+            char nextIn = (char) ('a' + (k + 1) % 12);
+            char out = (char) ('A' + k);
+            char nextOut = (char) ('A' + (k + 1) % 12);
+            text.append(in).append('-').append(nextIn).append(';').append(out).append('-').append(nextOut).append(';');
+            text.append(in).append('-').append(out).append(';').append(in).append('-').append(nextOut).append(';');
+        }
+        int[] want = {-2, 0, 0, -2, 0, 0, 0, 0};
+        for (int way = 0; way < 8; way++) {
+            DrawingHouse house = Check.house(text.toString());
+            Check.due("edges", house.count(0, 1), 48);
+            Check.due("way " + way, house.draw(0, way, 8), want[way]);
+            if (way == 1) {
+                Check.due("no crossings on the grid", house.judge(0, 0), 0);
+                Check.due("no node on an edge", house.judge(0, 2), 0);
+                Check.due("no bends", house.judge(0, 4), 0);
+                Check.due("within 45 times 23", house.judge(0, 7) <= 45 * 23, true);
+            }
+            if (way == 2) {
+                Check.due("two bends each", house.judge(0, 4), 96);
+                Check.due("bends of the last edge", house.at(0, 2, 47, 0), 2);
+                Check.due("no pieces aslant", house.judge(0, 5), 0);
+            }
+        }
+    }
+
+    /** 24 nodes and 48 edges that are not planar, in one strong part: what each way answers, and that all have points. */
+    private static void theFullestOfAll() {
+        StringBuilder text = new StringBuilder();
+        for (int step : new int[] {1, 7}) {
+            for (int k = 0; k < 24; k++) {
+                text.append((char) ('a' + k)).append('>').append((char) ('a' + (k + step) % 24)).append(";");
+            }
+        }
+        int[] want = {-2, -2, -2, -2, 0, 0, 0, 0};
+        for (int way = 0; way < 8; way++) {
+            DrawingHouse house = Check.house(text.toString());
+            Check.due("edges", house.count(0, 1), 48);
+            Check.due("way " + way, house.draw(0, way, way == 6 ? 200 : 512), want[way]);
+            for (int i : new int[] {0, 23}) {
+                Check.due("a point for node " + i, house.at(0, 0, i, 0) != Integer.MIN_VALUE, want[way] == 0);
+            }
+        }
+    }
+
+    /** Two layers of 12 with 48 edges between them: the judge, who knows points alone, counts the same crossings. */
+    private static void theFullestLayers() {
+        StringBuilder text = new StringBuilder(nodes(24));
+        for (int k = 0; k < 12; k++) {
+            for (int step : new int[] {0, 3, 4, 9}) {
+                text.append((char) ('a' + k)).append('>').append((char) ('m' + (k * 5 + step) % 12)).append(';');
+            }
+        }
+        DrawingHouse house = drawn(text.toString(), 0, 0);
+        Check.due("edges", house.count(0, 1), 48);
+        Check.due("edges go over one layer each", house.told(0, 2, 0), 48);
+        Check.due("the last node's layer", house.told(0, 3, 23), 1);
+        Check.due("crossings", house.judge(0, 0), house.told(0, 1, 0));
+        Check.due("boxes apart", house.judge(0, 1), 0);
     }
 
     private static void aIsNotLookedAtByOthers() {
