@@ -54,6 +54,15 @@ final class Check {
         return house;
     }
 
+    /** A text of so many nodes without edges: a, b, c, .. */
+    static String nodes(int count) {
+        StringBuilder text = new StringBuilder();
+        for (int k = 0; k < count; k++) {
+            text.append("node ").append((char) ('a' + k)).append(';');
+        }
+        return text.toString();
+    }
+
     /** The latest text. */
     static String written(DrawingHouse house) {
         StringBuilder text = new StringBuilder();

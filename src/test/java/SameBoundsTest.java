@@ -11,18 +11,10 @@ public final class SameBoundsTest {
         Check.end();
     }
 
-    private static String nodes(int count) {
-        StringBuilder text = new StringBuilder();
-        for (int k = 0; k < count; k++) {
-            text.append("node ").append((char) ('a' + k)).append(';');
-        }
-        return text.toString();
-    }
-
     /** Compares two graphs whose edges are told as pairs of letters. */
     private static DrawingHouse compared(int count, String first, String second, int want, int steps) {
-        DrawingHouse house = Check.house(nodes(count) + edges(first));
-        Check.read(house, 1, nodes(count) + edges(second));
+        DrawingHouse house = Check.house(Check.nodes(count) + edges(first));
+        Check.read(house, 1, Check.nodes(count) + edges(second));
         Check.due("same of " + first, house.same(0, 1), want);
         Check.due("steps", house.map(-1), steps);
         return house;

@@ -67,14 +67,6 @@ public final class WayBoundsTest {
         return row.toString();
     }
 
-    private static String nodes(int count) {
-        StringBuilder text = new StringBuilder();
-        for (int k = 0; k < count; k++) {
-            text.append("node ").append((char) ('a' + k)).append(';');
-        }
-        return text.toString();
-    }
-
     private static void waysAreEight() {
         DrawingHouse house = Check.house("a-b-c-a;");
         int[] want = {0, 0, 0, -2, 0, 0, 0, 0};
@@ -162,7 +154,7 @@ public final class WayBoundsTest {
 
     /** Two layers of 12 with 48 edges between them: the judge, who knows points alone, counts the same crossings. */
     private static void theFullestLayers() {
-        StringBuilder text = new StringBuilder(nodes(24));
+        StringBuilder text = new StringBuilder(Check.nodes(24));
         for (int k = 0; k < 12; k++) {
             for (int step : new int[] {0, 3, 4, 9}) {
                 text.append((char) ('a' + k)).append('>').append((char) ('m' + (k * 5 + step) % 12)).append(';');
@@ -195,13 +187,13 @@ public final class WayBoundsTest {
 
     /** With seven nodes the best order of all counts; with eight it is found step by step, here a worse one. */
     private static void strongPartsOfSevenAndEight() {
-        turned(nodes(7) + "g>d[weight=3];e>b[weight=3];c>a;a>f;f>e;d>a;c>g[weight=3];f>c;b>g;", "000100000");
-        turned(nodes(7) + "e>a[weight=2];b>e;c>b;e>f;g>c;d>e[weight=3];a>d[weight=3];g>d;b>d[weight=2];f>g;", "1001000000");
-        turned(nodes(8) + "c>g;f>c[weight=2];a>b;d>h;b>d;h>f[weight=2];g>e;g>f;e>a[weight=2];c>h;", "0000001101");
-        turned(nodes(8) + "e>a;d>c[weight=3];h>g[weight=2];f>e[weight=2];g>f[weight=2];b>d[weight=3];a>d[weight=3];a>b[weight=3];"
+        turned(Check.nodes(7) + "g>d[weight=3];e>b[weight=3];c>a;a>f;f>e;d>a;c>g[weight=3];f>c;b>g;", "000100000");
+        turned(Check.nodes(7) + "e>a[weight=2];b>e;c>b;e>f;g>c;d>e[weight=3];a>d[weight=3];g>d;b>d[weight=2];f>g;", "1001000000");
+        turned(Check.nodes(8) + "c>g;f>c[weight=2];a>b;d>h;b>d;h>f[weight=2];g>e;g>f;e>a[weight=2];c>h;", "0000001101");
+        turned(Check.nodes(8) + "e>a;d>c[weight=3];h>g[weight=2];f>e[weight=2];g>f[weight=2];b>d[weight=3];a>d[weight=3];a>b[weight=3];"
                 + "b>g;c>a;g>c[weight=2];e>h[weight=3];", "100100000100");
         // Edges that lead out of the part, here to a and f, don't count in its order.
-        turned(nodes(10) + "b>a;i>h;j>g[weight=3];d>i[weight=2];j>d;c>e[weight=2];b>h;h>a[weight=3];e>g[weight=2];h>j[weight=2];"
+        turned(Check.nodes(10) + "b>a;i>h;j>g[weight=3];d>i[weight=2];j>d;c>e[weight=2];b>h;h>a[weight=3];e>g[weight=2];h>j[weight=2];"
                 + "h>g[weight=3];g>f;c>b[weight=2];b>d;e>j;g>c[weight=2];", "0100001000000011");
         // A strong part of one node has no edge to turn, one of two can't be; edges that are not one-way go one way here.
         turned("a>b;b>c;", "00");
@@ -210,11 +202,11 @@ public final class WayBoundsTest {
 
     /** With six items a layer the best orders of all count; with seven they are swept, here to worse ones. */
     private static void layersOfSixAndSeven() {
-        DrawingHouse six = drawn(nodes(9) + "a>h;a>g;b>d;c>g;c>f;a>i;a>e;", 0, 0);
+        DrawingHouse six = drawn(Check.nodes(9) + "a>h;a>g;b>d;c>g;c>f;a>i;a>e;", 0, 0);
         Check.due("crossings", six.told(0, 1, 0), 0);
         Check.due("layer 0", level(six, 0), "acb");
         Check.due("layer 1", level(six, 5), "ehigfd");
-        DrawingHouse seven = drawn(nodes(10) + "b>d;c>i;b>i;c>f;c>h;a>d;b>g;c>j;a>h;b>f;a>e;a>j;", 0, 0);
+        DrawingHouse seven = drawn(Check.nodes(10) + "b>d;c>i;b>i;c>f;c>h;a>d;b>g;c>j;a>h;b>f;a>e;a>j;", 0, 0);
         Check.due("crossings", seven.told(0, 1, 0), 10);
         Check.due("layer 0", level(seven, 0), "abc");
         Check.due("layer 1", level(seven, 5), "edghjfi");
@@ -222,7 +214,7 @@ public final class WayBoundsTest {
 
     /** The tenth sweep is the first with 6 crossings; an eleventh would have 5. */
     private static void sweepsAreTen() {
-        DrawingHouse house = drawn(nodes(14) + "a>l;a>c;e>j;g>f;n>k;n>c;e>k;i>l;i>h;i>f;g>k;", 0, 0);
+        DrawingHouse house = drawn(Check.nodes(14) + "a>l;a>c;e>j;g>f;n>k;n>c;e>k;i>l;i>h;i>f;g>k;", 0, 0);
         Check.due("crossings", house.told(0, 1, 0), 6);
         Check.due("layer 0", level(house, 0), "abnigdem");
         Check.due("layer 1", level(house, 5), "clhkfj");
@@ -247,7 +239,7 @@ public final class WayBoundsTest {
         Check.due("K5", draw("a-b-c-d-e-a-c-e-b-d-a;", 1, 0), -2);
         Check.due("K5 without an edge", draw("a-b-c-d-e-a-c-e-b-d;", 1, 0), 0);
         Check.due("K3,3", draw("a-x;a-y;a-z;b-x;b-y;b-z;c-x;c-y;c-z;", 1, 0), -2);
-        DrawingHouse alone = drawn(nodes(24), 1, 0);
+        DrawingHouse alone = drawn(Check.nodes(24), 1, 0);
         Check.due("24 nodes without edges: no two at one point", alone.judge(0, 6), 0);
         Check.due("within 45 times 23", alone.judge(0, 7) <= 45 * 23, true);
         Check.due("no bends", alone.judge(0, 4), 0);
@@ -280,7 +272,7 @@ public final class WayBoundsTest {
         Check.due("without its last edge", draw("a-b-c;", 3, -1), 0);
         Check.due("a ring in the second part", draw("a-b;c-d-e-c;", 3, 0), -2);
         Check.due("a ring by one-way edges", draw("a>b>c;a>c;", 3, -1), -2);
-        Check.due("no edges", draw(nodes(24), 3, -1), 0);
+        Check.due("no edges", draw(Check.nodes(24), 3, -1), 0);
     }
 
     private static void treesHangFromANodeOrNone() {
@@ -299,7 +291,7 @@ public final class WayBoundsTest {
     }
 
     private static void treePointsAreFourApart() {
-        DrawingHouse alone = drawn(nodes(24), 3, -1);
+        DrawingHouse alone = drawn(Check.nodes(24), 3, -1);
         for (int i = 0; i < 24; i++) {
             Check.due("x of " + i, alone.at(0, 0, i, 0), 4 * i);
         }
@@ -378,16 +370,16 @@ public final class WayBoundsTest {
 
     /** With eight nodes the best order of all counts; with nine nodes they are put in one by one, here to a worse one. */
     private static void ringsOfEightAndNine() {
-        DrawingHouse eight = drawn(nodes(8) + "h-g;c-a;c-b;h-e;f-b;d-c;h-a;e-d;e-c;e-a;h-f;", 5, 0);
+        DrawingHouse eight = drawn(Check.nodes(8) + "h-g;c-a;c-b;h-e;f-b;d-c;h-a;e-d;e-c;e-a;h-f;", 5, 0);
         Check.due("crossings", eight.told(0, 14, 0), 1);
         ringed(eight, 0, 4, 3, 2, 1, 5, 6, 7);
-        DrawingHouse nine = drawn(nodes(9) + "f-a;h-g;h-e;i-e;h-c;g-c;i-b;f-e;g-b;e-c;c-a;b-a;", 5, 0);
+        DrawingHouse nine = drawn(Check.nodes(9) + "f-a;h-g;h-e;i-e;h-c;g-c;i-b;f-e;g-b;e-c;c-a;b-a;", 5, 0);
         Check.due("crossings", nine.told(0, 14, 0), 4);
         ringed(nine, 0, 5, 8, 3, 4, 7, 2, 6, 1);
         DrawingHouse two = drawn("a-b;", 5, 0);
         ringed(two, 0, 1);
         // 24 nodes: corners at places 0, 6, 12, 18.
-        DrawingHouse full = drawn(nodes(24), 5, 0);
+        DrawingHouse full = drawn(Check.nodes(24), 5, 0);
         Check.due("no crossings", full.told(0, 14, 0), 0);
         ringed(full, 0, 23, 22, 21, 20, 19, 18, 17, 16, 15, 14, 13, 12, 11, 10, 9, 8, 7, 6, 5, 4, 3, 2, 1);
     }
@@ -436,11 +428,11 @@ public final class WayBoundsTest {
 
     /** Ahead of step 17 nodes a and e are at one point: a, with the lesser number, goes to the left, e to the right. */
     private static void nodesThatMeet() {
-        forced(nodes(5) + "e-a[weight=9];", 17, "40 171 -21 269 40", "88 304 270 177 88");
-        forced(nodes(5) + "e-a[weight=9];", 18, "32 172 -24 273 48", "85 307 273 176 85");
-        forced(nodes(5) + "a-e[weight=9];", 20, "39 175 -29 280 39", "91 313 278 174 75");
-        forced(nodes(5) + "e>a[weight=8];", 40, "30 197 -76 338 46", "91 364 318 161 75");
-        forced(nodes(5) + "e-a[weight=9];", 80, "30 234 -152 427 44", "87 441 376 137 75");
+        forced(Check.nodes(5) + "e-a[weight=9];", 17, "40 171 -21 269 40", "88 304 270 177 88");
+        forced(Check.nodes(5) + "e-a[weight=9];", 18, "32 172 -24 273 48", "85 307 273 176 85");
+        forced(Check.nodes(5) + "a-e[weight=9];", 20, "39 175 -29 280 39", "91 313 278 174 75");
+        forced(Check.nodes(5) + "e>a[weight=8];", 40, "30 197 -76 338 46", "91 364 318 161 75");
+        forced(Check.nodes(5) + "e-a[weight=9];", 80, "30 234 -152 427 44", "87 441 376 137 75");
     }
 
     private static void forced(String graph, int steps, String x, String y) {
@@ -456,7 +448,7 @@ public final class WayBoundsTest {
     }
 
     private static void theMatrixOfFullAndEmptyGraphs() {
-        DrawingHouse house = drawn(nodes(24), 7, 0);
+        DrawingHouse house = drawn(Check.nodes(24), 7, 0);
         Check.due("band without edges", house.told(0, 5, 0), 0);
         for (int i = 0; i < 24; i++) {
             Check.due("the other way round: " + i, house.at(0, 0, i, 0), 4 * (23 - i));

@@ -21,14 +21,6 @@ public final class WayTiesTest {
         Check.end();
     }
 
-    private static String nodes(int count) {
-        StringBuilder text = new StringBuilder();
-        for (int k = 0; k < count; k++) {
-            text.append("node ").append((char) ('a' + k)).append(';');
-        }
-        return text.toString();
-    }
-
     private static DrawingHouse drawn(String graph, int way, int a) {
         DrawingHouse house = Check.house(graph);
         Check.due("draw " + way + " of " + graph, house.draw(0, way, a), 0);
@@ -42,7 +34,7 @@ public final class WayTiesTest {
     /** Layer 0 keeps its order, and layer 1 is the other way round: the last of all its orders. */
     private static void theLastOrderOfALayer() {
         for (int size = 2; size <= 7; size++) {
-            StringBuilder graph = new StringBuilder(nodes(2 * size));
+            StringBuilder graph = new StringBuilder(Check.nodes(2 * size));
             for (int k = 0; k < size; k++) {
                 graph.append((char) ('a' + k)).append('>').append((char) ('a' + 2 * size - 1 - k)).append(';');
             }
@@ -57,7 +49,7 @@ public final class WayTiesTest {
 
     /** a, b and c, d cross once in any order; below them f and e are put under c and d. */
     private static void crossingsThatCannotBeHelped() {
-        String graph = nodes(6) + "a>c;a>d;b>c;b>d;c>f;d>e;";
+        String graph = Check.nodes(6) + "a>c;a>d;b>c;b>d;c>f;d>e;";
         Check.due("crossings", drawn(graph, 0, 0).told(0, 1, 0), 1);
         text(graph, 0, 0, "a 0 0\nb 6 0\nc 0 5\nd 6 5\ne 6 10\nf 0 10\n0 2\n0 3\n1 2\n1 3\n2 5\n3 4\n");
     }
@@ -71,10 +63,10 @@ public final class WayTiesTest {
     }
 
     private static void barsFromTheTailOfEdge0() {
-        String graph = nodes(4) + "c-b;b-a;a-c;c-d;d-b;";
+        String graph = Check.nodes(4) + "c-b;b-a;a-c;c-d;d-b;";
         text(graph, 2, 0, "a 0 3\nb 0 6\nc 0 0\nd 1 3\n2 1 -1 0 -1 6\n1 0 0 6 0 3\n0 2 0 3 0 0\n2 3 1 0 1 3\n3 1 1 3 1 6\n");
         numbers(graph, 1, 3, 0, 2);
-        String turned = nodes(4) + "b-c;b-a;a-c;c-d;d-b;";
+        String turned = Check.nodes(4) + "b-c;b-a;a-c;c-d;d-b;";
         text(turned, 2, 0, "a 0 3\nb 0 0\nc 0 6\nd 1 3\n1 2 -1 0 -1 6\n1 0 0 0 0 3\n0 2 0 3 0 6\n2 3 1 6 1 3\n3 1 1 3 1 0\n");
         numbers(turned, 2, 0, 3, 1);
     }
@@ -111,7 +103,7 @@ public final class WayTiesTest {
 
     private static void childrenByNumber() {
         text("c-a;c-b;c-d;", 3, 0, "c 4 0\na 0 4\nb 4 4\nd 8 4\n0 1\n0 2\n0 3\n");
-        text(nodes(4) + "c-d;c-b;c-a;", 3, 2, "a 0 4\nb 4 4\nc 4 0\nd 8 4\n2 3\n2 1\n2 0\n");
+        text(Check.nodes(4) + "c-d;c-b;c-a;", 3, 2, "a 0 4\nb 4 4\nc 4 0\nd 8 4\n2 3\n2 1\n2 0\n");
     }
 
     private static void rectangle(String graph, int side, int what, int i, String want) {
@@ -134,15 +126,15 @@ public final class WayTiesTest {
 
     /** Of equal sides the row is at the top, as it is where the width is the shorter one; else at the left. */
     private static void sidesThatAreEqual() {
-        String four = nodes(4);
+        String four = Check.nodes(4);
         String[] want = {"0 0 4 4", "4 0 5 4", "0 4 4 5", "4 4 5 5"};
         for (int i = 0; i < 4; i++) {
             rectangle(four, 9, 6, i, want[i]);
         }
         // Below the row of a and b there are 9 times 3 left, wider than high: c's row is at the left, all of it.
-        rectangle(nodes(3), 9, 6, 0, "0 0 4 6");
-        rectangle(nodes(3), 9, 6, 1, "4 0 5 6");
-        rectangle(nodes(3), 9, 6, 2, "0 6 9 3");
+        rectangle(Check.nodes(3), 9, 6, 0, "0 0 4 6");
+        rectangle(Check.nodes(3), 9, 6, 1, "4 0 5 6");
+        rectangle(Check.nodes(3), 9, 6, 2, "0 6 9 3");
     }
 
     /** Greater ones come first, equal ones as they were: groups, then nodes. */
@@ -172,9 +164,9 @@ public final class WayTiesTest {
 
     /** Of several orders without crossings the first as a row counts: a, b, d, c, not a, c, b, d. */
     private static void placesOnTheRing() {
-        text(nodes(4), 5, 0, "a 0 0\nb 32 0\nc 32 32\nd 0 32\n");
-        text(nodes(4) + "a-c;b-d;", 5, 0, "a 0 0\nb 32 0\nc 0 32\nd 32 32\n0 2\n1 3\n");
-        text(nodes(4) + "a-c;b-d;a-b;c-d;", 5, 0, "a 0 0\nb 32 0\nc 0 32\nd 32 32\n0 2\n1 3\n0 1\n2 3\n");
+        text(Check.nodes(4), 5, 0, "a 0 0\nb 32 0\nc 32 32\nd 0 32\n");
+        text(Check.nodes(4) + "a-c;b-d;", 5, 0, "a 0 0\nb 32 0\nc 0 32\nd 32 32\n0 2\n1 3\n");
+        text(Check.nodes(4) + "a-c;b-d;a-b;c-d;", 5, 0, "a 0 0\nb 32 0\nc 0 32\nd 32 32\n0 2\n1 3\n0 1\n2 3\n");
     }
 
     private static void theBandOfAnotherGraph() {
@@ -190,7 +182,7 @@ public final class WayTiesTest {
 
     /** Ahead of step 31 a and e are at one point, and others pull both of them: 65,536 each way is just enough. */
     private static void nodesThatMeetAndArePulledAway() {
-        String graph = nodes(5) + "c-a[weight=5];b-a[weight=9];e-b[weight=5];e-c[weight=9];d-c[weight=9];e-a[weight=9];d-a[weight=9];c-b[weight=9];";
+        String graph = Check.nodes(5) + "c-a[weight=5];b-a[weight=9];e-b[weight=5];e-c[weight=9];d-c[weight=9];e-a[weight=9];d-a[weight=9];c-b[weight=9];";
         String edges = "2 0\n1 0\n4 1\n4 2\n3 2\n4 0\n3 0\n2 1\n";
         text(graph, 6, 31, "a 72 120\nb 76 116\nc 72 119\nd 81 110\ne 72 120\n" + edges);
         text(graph, 6, 32, "a 64 128\nb 84 108\nc 80 111\nd 89 102\ne 80 128\n" + edges);
