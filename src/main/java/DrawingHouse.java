@@ -3934,8 +3934,8 @@ public final class DrawingHouse {
             return c == '{' || c == '}' || c == '[' || c == ']' || c == ';' || c == '=' || c == '-' || c == '>';
         }
 
-        private boolean isNameByte(int k) {
-            return k < end && (isLetter(tape[k]) || isDigit(tape[k]) || tape[k] == '_');
+        private static boolean isNameByte(int c) {
+            return isLetter(c) || isDigit(c) || c == '_';
         }
 
         /** Goes on to the next token. */
@@ -3949,7 +3949,7 @@ public final class DrawingHouse {
             }
             int c = tape[next];
             if (isLetter(c)) {
-                for (; isNameByte(next); next++) {
+                for (; next < end && isNameByte(tape[next]); next++) {
                 }
                 kind = next - begin <= MAX_NAME ? WORD : BAD;
             } else if (isDigit(c)) {

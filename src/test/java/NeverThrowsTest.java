@@ -2,7 +2,7 @@ import java.util.Random;
 
 /**
  * LANGUAGE.md, rule 7: no call throws or fails to end, for any arguments in any state. Each object gets
- * its 512 calls, with arguments near the bounds, at the ends of int, or that hit what is there.
+ * its 512 calls and some more, with arguments near the bounds, at the ends of int, or that hit what is there.
  */
 public final class NeverThrowsTest {
     private static final int[] ODD = {-1, -2, 0, 1, 2, 3, 4, 7, 8, 9, 15, 16, 23, 24, 47, 48, 64, 65, 99, 100, 200, 512,
@@ -21,7 +21,7 @@ public final class NeverThrowsTest {
     public static void main(String[] args) {
         for (long seed = 0; seed < 400; seed++) {
             NeverThrowsTest run = new NeverThrowsTest(seed);
-            for (int k = 0; k < 512; k++) {
+            for (int k = 0; k < 520; k++) {
                 run.call(seed, k);
             }
         }
